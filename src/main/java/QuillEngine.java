@@ -152,10 +152,26 @@ public final class QuillEngine {
         }
 
         void copy(int from, int to, int count) {
-            if (from < 0 || to < 0 || count < 0 || from > row.length - count || to > row.length - count) {
-                return;
+            if (holds(from, count) && holds(to, count)) {
+                System.arraycopy(row, from, row, to, count);
             }
-            System.arraycopy(row, from, row, to, count);
+        }
+
+        /** How many bytes from left and from right on are alike, looking at so many at most. */
+        int alike(int left, int right, int count) {
+            if (!holds(left, count) || !holds(right, count)) {
+                return 0;
+            }
+            for (int i = 0; i < count; i++) {
+                if (row[left + i] != row[right + i]) {
+                    return i;
+                }
+            }
+            return count;
+        }
+
+        private boolean holds(int from, int count) {
+            return from >= 0 && count >= 0 && count <= row.length && from <= row.length - count;
         }
 
         /** Writes n in decimal at the end of the place for digits and tells where it begins. */
@@ -1486,7 +1502,7 @@ public final class QuillEngine {
         }
 
         void pop(int many) {
-            for (int i = 0; i < many && top > 0; i++) {
+            for (int i = 0; i < many && top > 0 && top <= ROOM; i++) {
                 top--;
                 heap.drop(blocks[top]);
             }
@@ -1809,11 +1825,9 @@ public final class QuillEngine {
 
         private int orderOfTexts(int left, int right) {
             int common = Math.min(values.count(left), values.count(right));
-            for (int i = 0; i < common; i++) {
-                int order = Integer.compare(byteAt(left, i), byteAt(right, i));
-                if (order != 0) {
-                    return order;
-                }
+            int alike = alike(left, right, 0, common);
+            if (alike < common) {
+                return Integer.compare(byteAt(left, alike), byteAt(right, alike));
             }
             return Integer.compare(values.count(left), values.count(right));
         }
@@ -1821,6 +1835,15 @@ public final class QuillEngine {
         private int byteAt(int value, int i) {
             heap.reading(values.block(value), 1);
             return bytes.look(values.start(value) + i);
+        }
+
+        /** How many of the first bytes of two texts are alike, those of the left one from a place on. */
+        private int alike(int left, int right, int from, int most) {
+            int alike = bytes.alike(values.start(left) + from, values.start(right), most);
+            int looked = Math.min(alike + 1, most);
+            heap.reading(values.block(left), looked);
+            heap.reading(values.block(right), looked);
+            return alike;
         }
 
         private void join() {
@@ -1878,21 +1901,13 @@ public final class QuillEngine {
         }
 
         private int placeOf(int sought, int text) {
-            for (int i = 0; i <= values.count(text) - values.count(sought); i++) {
-                if (standsAt(sought, text, i)) {
+            int count = values.count(sought);
+            for (int i = 0; i <= values.count(text) - count; i++) {
+                if (alike(text, sought, i, count) == count) {
                     return i;
                 }
             }
             return NOWHERE;
-        }
-
-        private boolean standsAt(int sought, int text, int i) {
-            for (int k = 0; k < values.count(sought); k++) {
-                if (byteAt(text, i + k) != byteAt(sought, k)) {
-                    return false;
-                }
-            }
-            return true;
         }
 
         private void digits() {
