@@ -159,6 +159,36 @@ final class LimitsTest {
         Checks.fault(1, f + main("do f(1, 2, 3)" + " + f(1, 2, 3)".repeat(19) + " + 1 @+ 1;"));
     }
 
+    /** Far beyond a limit the fault is still at the first one beyond it, and nothing overflows. */
+    private static void farBeyond() {
+        Checks.fault(1, "fn main(): int { do " + "(".repeat(8) + "@" + "(".repeat(2900));
+        Checks.fault(1, "fn main(): int { do " + "-".repeat(40) + "@" + "-".repeat(2900));
+        Checks.fault(1, "fn main(): int { do " + "t[".repeat(8) + "t@[" + "t[".repeat(1400));
+        Checks.fault(1, "fn main(): int { do " + "f(".repeat(8) + "f@(" + "f(".repeat(1400));
+        Checks.fault(1, "fn main(): int { do " + "len(".repeat(8) + "len@(" + "len(".repeat(700));
+        Checks.fault(1, "fn main(): int { " + "if 1{".repeat(8) + "@" + "if 1{".repeat(500));
+        Checks.fault(1, "fn main(): int { " + "x=1;".repeat(300) + "@" + "x=1;".repeat(400));
+        Checks.fault(1, "fn main(): int { do 1" + "+1".repeat(40) + "@" + "+1".repeat(1400));
+        Checks.fault(1, "fn main(): int { do t" + "[0]".repeat(40) + "@" + "[0]".repeat(900));
+        Checks.fault(1, "fn f(a:int,a:int,a:int,a:int,a:int,a:int,@" + "a:int,".repeat(480));
+        StringBuilder many = new StringBuilder();
+        for (int i = 0; i < 20; i++) {
+            many.append("fn f():int{}");
+        }
+        Checks.fault(1, many + "@" + "fn f():int{}".repeat(200));
+        Checks.fault(1, "fn main(): int { " + lets(0, 30) + "let @a = 1; " + "let a = 1; ".repeat(200));
+    }
+
+    /** Nearly as many words as there are bytes: what is handed over has no limit but the bytes. */
+    private static void manyWords() {
+        String open = "fn main():int{do f(1";
+        int more = (3000 - open.length() - 3) / 2;
+        String text = open + ",1".repeat(more) + ");}";
+        Checks.faultAt(2, 17, text);
+        Checks.faultAt(1, text.length() - 1, text.substring(0, text.length() - 1));
+        Checks.fault(1, open + ",1".repeat(more) + "@;}");
+    }
+
     public static void main(String[] args) {
         bytes();
         functions();
@@ -169,6 +199,8 @@ final class LimitsTest {
         brackets();
         signs();
         noSigns();
+        farBeyond();
+        manyWords();
         Checks.end("LimitsTest");
     }
 }

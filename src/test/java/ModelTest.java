@@ -43,6 +43,57 @@ final class ModelTest {
         differs(text, call + "wrong", 0, x.wrong());
     }
 
+    private static void alike(String text) {
+        QuillEngine x = new QuillEngine();
+        Model model = new Model(text);
+        differs(text, "kind", 0, model.kind);
+        if (readAlike(x, text, model)) {
+            for (int heap : HEAPS) {
+                for (int deep = 1; deep <= 12; deep++) {
+                    runAlike(x, text, model, heap, deep);
+                }
+            }
+        }
+    }
+
+    /** All frames full of locals, with as many parts under way in each as the LIMITS let stand open. */
+    private static void fullest() {
+        StringBuilder f = new StringBuilder("fn f(a: text, b: text, c: text, d: text, e: text, n: int): int { ");
+        f.append("let m = n - 1; ");
+        for (int i = 1; i < 24; i++) {
+            f.append("let v").append(i).append(" = sign(n + ").append(i).append("); ");
+        }
+        String inner = "if n <= 0 { return 1; } return ";
+        String open = "n <= n + n * f(a, v1, v23, c, e & v2, ";
+        String deepest = open.repeat(8) + "m" + ")".repeat(8);
+        String main = " fn main(): int { return f(\"\", sign(1), \"c\", sign(2), \"e\" & sign(3), ";
+        alike(f + inner + deepest + "; }" + main + "3); }");
+        alike(f + inner + deepest + "; }" + main + "20); }");
+        alike(f + "return " + deepest + "; }" + main + "1); }");
+    }
+
+    /** As many acts as the bytes can be: an act for nearly every byte. */
+    private static void densest() {
+        StringBuilder s = new StringBuilder("fn main():int{let a=1;");
+        for (int i = 0; s.length() < 2880; i++) {
+            s.append("a=").append(i % 10).append("+a-1*a".repeat(13)).append(";");
+        }
+        alike(s + "print a;return a;}");
+        s = new StringBuilder("fn main():int{let a=1;");
+        for (int i = 0; i < 290; i++) {
+            s.append("a=-a+").append(i % 7).append(i % 3 == 0 ? "*a;" : ";");
+        }
+        alike(s + "print a;return a;}");
+        s = new StringBuilder("fn main():int{let a=1;let t=\"ab\";");
+        for (int i = 0; i < 90; i++) {
+            s.append("if a{let b=t[a-1];a=b*a;}else{a=a+1or a;}");
+            if (s.length() > 2900) {
+                break;
+            }
+        }
+        alike(s + "print a;return a;}");
+    }
+
     public static void main(String[] args) {
         long from = args.length > 0 ? Long.parseLong(args[0]) : 1;
         int many = args.length > 1 ? Integer.parseInt(args[1]) : 3000;
@@ -71,6 +122,8 @@ final class ModelTest {
                 }
             }
         }
+        fullest();
+        densest();
         System.out.println(rights + " programs, kinds of texts " + java.util.Arrays.toString(KINDS)
             + ", ends " + java.util.Arrays.toString(ENDS));
         Checks.end("ModelTest");

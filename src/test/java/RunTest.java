@@ -239,6 +239,31 @@ final class RunTest {
         }
     }
 
+    /** Neither many runs that end at once nor many programs fill anything up. */
+    private static void often() {
+        String f = "fn f(a: text, b: text, n: int): int { let c = a & b; let d = c & c; return f(d, c, n / (n - 1) + n); }"
+            + " fn main(): int { return f(\"a\", \"b\", ";
+        for (int n = 0; n < 4; n++) {
+            String text = f + n + "); }";
+            QuillEngine x = Checks.right(text);
+            Model model = new Model(text);
+            for (int i = 0; i < 100; i++) {
+                int heap = i * 37;
+                int deep = 1 + i % 12;
+                Checks.same("run(" + heap + ", " + deep + ") of " + text, model.run(heap, deep), x.run(heap, deep));
+                Checks.same("taken", model.told[5], x.told(5));
+            }
+        }
+        QuillEngine x = new QuillEngine();
+        String text = "fn main(): int { " + "do 1 + 1 + 1;".repeat(200) + " return ";
+        for (int i = 0; i < 20; i++) {
+            Checks.feed(x, text + i + "; }");
+            Checks.same("read", 0, x.read());
+            Checks.same("run", 0, x.run(0, 1));
+            Checks.same("returned", i, x.told(0));
+        }
+    }
+
     public static void main(String[] args) {
         numbers();
         settled();
@@ -249,6 +274,7 @@ final class RunTest {
         statements();
         functions();
         again();
+        often();
         Checks.end("RunTest");
     }
 }
