@@ -612,20 +612,24 @@ public final class QuillEngine {
         private final int[] firsts;
         private final int[] seconds;
         private int count;
+        private boolean open;
 
         Code() {
             acts = new byte[ROOM];
             firsts = new int[ROOM];
             seconds = new int[ROOM];
             count = 0;
+            open = false;
         }
 
-        void clear() {
+        /** Nothing is written while it is not open. */
+        void begin(boolean opened) {
             count = 0;
+            open = opened;
         }
 
         int add(int act, int first, int second) {
-            if (count < 0 || count >= ROOM) {
+            if (!open || count < 0 || count >= ROOM) {
                 return NOWHERE;
             }
             acts[count] = (byte) act;
@@ -685,6 +689,8 @@ public final class QuillEngine {
         private final Code code;
         private final Scope scope;
         private boolean second;
+        private int last;
+        private int faultyWord;
         private int textFault;
         private int nameFault;
         private int typeFault;
@@ -701,6 +707,8 @@ public final class QuillEngine {
             this.code = code;
             scope = new Scope();
             second = false;
+            last = 0;
+            faultyWord = NOWHERE;
             textFault = NOWHERE;
             nameFault = NOWHERE;
             typeFault = NOWHERE;
@@ -713,21 +721,24 @@ public final class QuillEngine {
         }
 
         int check(byte[] tape, int length) {
-            textFault = NOWHERE;
-            nameFault = NOWHERE;
-            typeFault = NOWHERE;
-            functions.clear();
-            code.clear();
+            clear();
             if (length > TEXT_ROOM) {
                 textFault = TEXT_ROOM;
                 return TEXT_FAULT;
             }
             words.split(tape, length);
-            walk(false);
-            if (textFault != NOWHERE) {
+            last = words.last();
+            for (int walk = 1; walk <= 2 && faultyWord == NOWHERE; walk++) {
+                begin(walk == 2);
+                for (int i = 0; i <= Functions.ROOM && (i == 0 || kind() == Words.FN); i++) {
+                    function(i);
+                }
+                expect(Words.END);
+            }
+            if (faultyWord != NOWHERE) {
+                textFault = words.from(faultyWord);
                 return TEXT_FAULT;
             }
-            walk(true);
             if (nameFault == NOWHERE && !hasMain()) {
                 nameFault = length;
             }
@@ -749,15 +760,20 @@ public final class QuillEngine {
             return main != NOWHERE && functions.parameters(main) == 0 && functions.type(main) == INT;
         }
 
-        private void walk(boolean secondTime) {
-            second = secondTime;
+        private void clear() {
+            faultyWord = NOWHERE;
+            textFault = NOWHERE;
+            nameFault = NOWHERE;
+            typeFault = NOWHERE;
+            functions.clear();
+        }
+
+        private void begin(boolean secondWalk) {
+            second = secondWalk;
+            code.begin(secondWalk);
             cursor = 0;
             statements = 0;
             depth = 0;
-            for (int i = 0; i <= Functions.ROOM && (i == 0 || kind() == Words.FN); i++) {
-                function(i);
-            }
-            expect(Words.END);
         }
 
         private void function(int index) {
@@ -781,8 +797,8 @@ public final class QuillEngine {
             }
             functions.setEntry(index, code.count());
             block();
-            emit(type == TEXT ? Code.QUOTES : Code.NUMBER, 0, 0);
-            emit(Code.RETURN, 0, 0);
+            code.add(type == TEXT ? Code.QUOTES : Code.NUMBER, 0, 0);
+            code.add(Code.RETURN, 0, 0);
             functions.setSlots(index, scope.most());
         }
 
@@ -838,7 +854,7 @@ public final class QuillEngine {
             }
             expect('}');
             if (scope.count() > mark) {
-                emit(Code.CLEAR, mark, scope.count() - mark);
+                code.add(Code.CLEAR, mark, scope.count() - mark);
             }
             scope.cut(mark);
         }
@@ -850,7 +866,9 @@ public final class QuillEngine {
             }
             statements++;
             depth++;
-            emit(Code.STEP, 0, 0);
+            signs = 0;
+            brackets = 0;
+            code.add(Code.STEP, 0, 0);
             switch (kind()) {
                 case Words.LET: let(); break;
                 case Words.NAME: give(); break;
@@ -861,7 +879,7 @@ public final class QuillEngine {
                 case Words.DO: forget(); break;
                 default: refuse(); break;
             }
-            emit(Code.BEHIND, 0, 0);
+            code.add(Code.BEHIND, 0, 0);
             depth--;
         }
 
@@ -876,9 +894,9 @@ public final class QuillEngine {
             }
             expect(Words.NAME);
             expect('=');
-            int type = whole();
+            int type = row(ANY);
             expect(';');
-            emit(Code.GIVE, scope.count(), 0);
+            code.add(Code.GIVE, scope.count(), 0);
             scope.add(name, type);
         }
 
@@ -889,19 +907,19 @@ public final class QuillEngine {
             }
             next();
             expect('=');
-            wholeOf(scope.type(slot));
+            rowOf(scope.type(slot));
             expect(';');
-            emit(Code.GIVE, slot, 0);
+            code.add(Code.GIVE, slot, 0);
         }
 
         private void choose() {
             next();
-            wholeOf(INT);
-            int toElse = emit(Code.JUMP_IF_ZERO, 0, 0);
+            rowOf(INT);
+            int toElse = code.add(Code.JUMP_IF_ZERO, 0, 0);
             block();
             if (kind() == Words.ELSE) {
                 next();
-                int toEnd = emit(Code.JUMP, 0, 0);
+                int toEnd = code.add(Code.JUMP, 0, 0);
                 code.aimHere(toElse);
                 block();
                 code.aimHere(toEnd);
@@ -913,47 +931,36 @@ public final class QuillEngine {
         private void repeat() {
             next();
             int again = code.count();
-            wholeOf(INT);
-            int toEnd = emit(Code.JUMP_IF_ZERO, 0, 0);
-            emit(Code.STEP, 0, 0);
+            rowOf(INT);
+            int toEnd = code.add(Code.JUMP_IF_ZERO, 0, 0);
+            code.add(Code.STEP, 0, 0);
             block();
-            emit(Code.JUMP, again, 0);
+            code.add(Code.JUMP, again, 0);
             code.aimHere(toEnd);
         }
 
         private void giveBack() {
             next();
-            wholeOf(functions.type(function));
+            rowOf(functions.type(function));
             expect(';');
-            emit(Code.RETURN, 0, 0);
+            code.add(Code.RETURN, 0, 0);
         }
 
         private void print() {
             next();
-            int type = whole();
+            int type = row(ANY);
             expect(';');
-            emit(Code.PRINT, type, 0);
+            code.add(Code.PRINT, type, 0);
         }
 
         private void forget() {
             next();
-            whole();
+            row(ANY);
             expect(';');
-            emit(Code.FORGET, 0, 0);
+            code.add(Code.FORGET, 0, 0);
         }
 
-        private int whole() {
-            signs = 0;
-            brackets = 0;
-            return row(ANY);
-        }
-
-        private void wholeOf(int type) {
-            int begins = here();
-            want(type, whole(), begins);
-        }
-
-        private void innerOf(int type) {
+        private void rowOf(int type) {
             int begins = here();
             want(type, row(ANY), begins);
         }
@@ -1002,17 +1009,17 @@ public final class QuillEngine {
 
         private void settle(int level, int sign, int type, int begins) {
             want(INT, type, begins);
-            int toEnd = emit(Code.SETTLE, 0, sign == Words.OR ? 1 : 0);
+            int toEnd = code.add(Code.SETTLE, 0, sign == Words.OR ? 1 : 0);
             int rightBegins = here();
             want(INT, row(level + 1), rightBegins);
-            emit(Code.TRUTH, 0, 0);
+            code.add(Code.TRUTH, 0, 0);
             code.aimHere(toEnd);
         }
 
         private void compare(int sign, int type) {
             int rightBegins = here();
             want(type, row(SUM), rightBegins);
-            emit(Code.COMPARE, sign, type);
+            code.add(Code.COMPARE, sign, type);
         }
 
         private void reckon(int level, int sign, int type, int begins) {
@@ -1020,7 +1027,7 @@ public final class QuillEngine {
             want(due, type, begins);
             int rightBegins = here();
             want(due, row(level + 1), rightBegins);
-            emit(sign == '&' ? Code.JOIN : Code.RECKON, sign, 0);
+            code.add(sign == '&' ? Code.JOIN : Code.RECKON, sign, 0);
         }
 
         private int front() {
@@ -1032,7 +1039,7 @@ public final class QuillEngine {
             next();
             int begins = here();
             want(INT, front(), begins);
-            emit(sign == '-' ? Code.NEGATE : Code.NOT, 0, 0);
+            code.add(sign == '-' ? Code.NEGATE : Code.NOT, 0, 0);
             return INT;
         }
 
@@ -1050,14 +1057,14 @@ public final class QuillEngine {
         private int bracketed() {
             int type = INT;
             open('[');
-            innerOf(INT);
+            rowOf(INT);
             if (kind() == ':') {
                 next();
-                innerOf(INT);
+                rowOf(INT);
                 type = TEXT;
             }
             close(']');
-            emit(type == TEXT ? Code.PART : Code.BYTE, 0, 0);
+            code.add(type == TEXT ? Code.PART : Code.BYTE, 0, 0);
             return type;
         }
 
@@ -1078,13 +1085,13 @@ public final class QuillEngine {
         }
 
         private int number() {
-            emit(Code.NUMBER, (int) words.value(cursor), 0);
+            code.add(Code.NUMBER, (int) words.value(cursor), 0);
             next();
             return INT;
         }
 
         private int quotes() {
-            emit(Code.QUOTES, here() + 1, (int) words.value(cursor));
+            code.add(Code.QUOTES, words.from(cursor) + 1, (int) words.value(cursor));
             next();
             return TEXT;
         }
@@ -1092,9 +1099,9 @@ public final class QuillEngine {
         private int local() {
             int slot = scope.find(words.value(cursor));
             if (slot == NOWHERE) {
-                faultOfName(here());
+                faultOfName(words.from(cursor));
             }
-            emit(Code.LOCAL, slot, 0);
+            code.add(Code.LOCAL, slot, 0);
             next();
             return scope.type(slot);
         }
@@ -1110,9 +1117,9 @@ public final class QuillEngine {
             countSign();
             next();
             open('(');
-            innerOf(due);
+            rowOf(due);
             close(')');
-            emit(act, 0, 0);
+            code.add(act, 0, 0);
             return type;
         }
 
@@ -1120,11 +1127,11 @@ public final class QuillEngine {
             countSign();
             next();
             open('(');
-            innerOf(TEXT);
+            rowOf(TEXT);
             expect(',');
-            innerOf(TEXT);
+            rowOf(TEXT);
             close(')');
-            emit(Code.FIND, 0, 0);
+            code.add(Code.FIND, 0, 0);
             return INT;
         }
 
@@ -1139,7 +1146,7 @@ public final class QuillEngine {
             if (callee == NOWHERE || functions.parameters(callee) != handed) {
                 faultOfName(begins);
             }
-            emit(Code.CALL, callee, 0);
+            code.add(Code.CALL, callee, 0);
             return functions.type(callee);
         }
 
@@ -1162,15 +1169,20 @@ public final class QuillEngine {
         }
 
         private void open(int bracket) {
-            if (brackets >= DEEPEST_BRACKET) {
+            if (brackets >= DEEPEST_BRACKET || words.kind(cursor) != bracket) {
                 refuse();
+            } else {
+                next();
             }
-            expect(bracket);
             brackets++;
         }
 
         private void close(int bracket) {
-            expect(bracket);
+            if (words.kind(cursor) != bracket) {
+                refuse();
+            } else {
+                next();
+            }
             brackets--;
         }
 
@@ -1190,13 +1202,13 @@ public final class QuillEngine {
         }
 
         private void next() {
-            if (cursor < words.last()) {
+            if (cursor < last) {
                 cursor++;
             }
         }
 
         private void expect(int kind) {
-            if (kind() == kind) {
+            if (words.kind(cursor) == kind) {
                 next();
             } else {
                 refuse();
@@ -1204,10 +1216,10 @@ public final class QuillEngine {
         }
 
         private void refuse() {
-            if (textFault == NOWHERE) {
-                textFault = here();
+            if (faultyWord == NOWHERE) {
+                faultyWord = cursor;
             }
-            cursor = words.last();
+            cursor = last;
         }
 
         private void faultOfName(int at) {
@@ -1220,10 +1232,6 @@ public final class QuillEngine {
             if (second && due != type && typeFault == NOWHERE) {
                 typeFault = begins;
             }
-        }
-
-        private int emit(int act, int first, int other) {
-            return second ? code.add(act, first, other) : NOWHERE;
         }
     }
 
@@ -1305,21 +1313,27 @@ public final class QuillEngine {
         }
 
         void hold(int block) {
-            if (known(block)) {
+            if (block >= 0 && block < HEAP_ROOM) {
                 references[block]++;
             }
         }
 
         void drop(int block) {
-            if (!known(block)) {
+            if (block < 0 || block >= HEAP_ROOM) {
                 return;
             }
             touched = true;
             references[block]--;
-            if (references[block] <= 0 && places[block] > 0) {
-                taken -= places[block];
-                places[block] = 0;
-                unchain(block);
+            if (references[block] > 0 || places[block] <= 0) {
+                return;
+            }
+            taken -= places[block];
+            places[block] = 0;
+            int previous = before[block];
+            int following = next[block];
+            if (previous >= 0 && previous <= HEAD && following >= 0 && following <= HEAD) {
+                next[previous] = following;
+                before[following] = previous;
             }
         }
 
@@ -1416,27 +1430,17 @@ public final class QuillEngine {
             return block >= 0 && block < HEAP_ROOM;
         }
 
-        private static boolean chained(int block) {
-            return block >= 0 && block <= HEAD;
-        }
-
         private void chain(int block, int following) {
-            if (!known(block) || !chained(following) || !chained(before[following])) {
+            if (!known(block) || following < 0 || following > HEAD) {
                 return;
             }
             int previous = before[following];
-            next[previous] = block;
-            before[block] = previous;
-            next[block] = following;
-            before[following] = block;
-        }
-
-        private void unchain(int block) {
-            if (!known(block) || !chained(next[block]) || !chained(before[block])) {
-                return;
+            if (previous >= 0 && previous <= HEAD) {
+                next[previous] = block;
+                before[block] = previous;
+                next[block] = following;
+                before[following] = block;
             }
-            next[before[block]] = next[block];
-            before[next[block]] = before[block];
         }
     }
 
@@ -1483,10 +1487,6 @@ public final class QuillEngine {
             return known(index) ? counts[index] : 0;
         }
 
-        void pushInt(int value) {
-            push(NOWHERE, value, 0);
-        }
-
         void push(int block, int start, int count) {
             if (top >= 0 && top < ROOM) {
                 heap.hold(block);
@@ -1517,7 +1517,8 @@ public final class QuillEngine {
         }
 
         void replaceByInt(int many, int value) {
-            replace(many, NOWHERE, value, 0);
+            pop(many);
+            push(NOWHERE, value, 0);
         }
 
         /** The topmost value goes to the row of a local, whose old value goes. */
@@ -1536,7 +1537,7 @@ public final class QuillEngine {
 
         void reserve(int many) {
             for (int i = 0; i < many; i++) {
-                pushInt(0);
+                push(NOWHERE, 0, 0);
             }
         }
 
@@ -1547,15 +1548,6 @@ public final class QuillEngine {
                 starts[i] = 0;
                 counts[i] = 0;
             }
-        }
-
-        /** The topmost value comes to stand at base, and all from there on goes. */
-        void fold(int base) {
-            int from = top - 1;
-            if (base < 0 || from < base) {
-                return;
-            }
-            replace(top - base, block(from), start(from), count(from));
         }
 
         /** Behind an S: every block that is not free is to be one that a value here refers to. */
@@ -1651,65 +1643,36 @@ public final class QuillEngine {
         }
 
         private void act() {
-            int kind = code.act(at);
             int first = code.first(at);
             int second = code.second(at);
-            at++;
-            if (kind <= Code.RETURN) {
-                control(kind, first, second);
-            } else if (kind <= Code.PRINT) {
-                carry(kind, first, second);
-            } else if (kind <= Code.COMPARE) {
-                reckonWith(kind, first, second);
-            } else {
-                actOnText(kind);
-            }
-        }
-
-        private void control(int kind, int first, int second) {
-            switch (kind) {
+            int top = values.top() - 1;
+            switch (code.act(at++)) {
                 case Code.STEP: pass(1); break;
                 case Code.BEHIND: values.lookThrough(); break;
                 case Code.JUMP: at = first; break;
                 case Code.JUMP_IF_ZERO: jumpIfZero(first); break;
                 case Code.SETTLE: settle(first, second); break;
                 case Code.CALL: call(first); break;
-                default: giveBack(); break;
-            }
-        }
-
-        private void carry(int kind, int first, int second) {
-            switch (kind) {
-                case Code.NUMBER: values.pushInt(first); break;
+                case Code.NUMBER: values.push(NOWHERE, first, 0); break;
                 case Code.QUOTES: values.push(NOWHERE, first, second); break;
                 case Code.LOCAL: values.pushCopy(base() + first); break;
                 case Code.GIVE: values.give(base() + first); break;
                 case Code.CLEAR: values.forget(base() + first, second); break;
                 case Code.FORGET: values.pop(1); break;
-                default: print(first); break;
-            }
-        }
-
-        private void reckonWith(int kind, int first, int second) {
-            int right = values.start(values.top() - 1);
-            switch (kind) {
-                case Code.TRUTH: values.replaceByInt(1, right != 0 ? 1 : 0); break;
-                case Code.NEGATE: values.replaceByInt(1, -right); break;
-                case Code.NOT: values.replaceByInt(1, right == 0 ? 1 : 0); break;
-                case Code.RECKON: reckon(first, values.start(values.top() - 2), right); break;
-                default: compare(first, second); break;
-            }
-        }
-
-        private void actOnText(int kind) {
-            switch (kind) {
+                case Code.PRINT: print(first); break;
+                case Code.TRUTH: values.replaceByInt(1, values.start(top) != 0 ? 1 : 0); break;
+                case Code.NEGATE: values.replaceByInt(1, -values.start(top)); break;
+                case Code.NOT: values.replaceByInt(1, values.start(top) == 0 ? 1 : 0); break;
+                case Code.RECKON: reckon(first, values.start(top - 1), values.start(top)); break;
+                case Code.COMPARE: compare(first, second); break;
                 case Code.JOIN: join(); break;
                 case Code.BYTE: byteOf(); break;
                 case Code.PART: part(); break;
-                case Code.LEN: values.replaceByInt(1, values.count(values.top() - 1)); break;
+                case Code.LEN: values.replaceByInt(1, values.count(top)); break;
                 case Code.FIND: find(); break;
                 case Code.DIGITS: digits(); break;
-                default: sign(); break;
+                case Code.SIGN: sign(); break;
+                default: giveBack(); break;
             }
         }
 
@@ -1739,7 +1702,7 @@ public final class QuillEngine {
             int truth = values.start(values.top() - 1) != 0 ? 1 : 0;
             values.pop(1);
             if (truth == settling) {
-                values.pushInt(truth);
+                values.push(NOWHERE, truth, 0);
                 at = target;
             }
         }
@@ -1759,7 +1722,8 @@ public final class QuillEngine {
         }
 
         private void giveBack() {
-            values.fold(base());
+            int value = values.top() - 1;
+            values.replace(values.top() - base(), values.block(value), values.start(value), values.count(value));
             values.lookThrough();
             under--;
             if (under <= 0 || under >= DEEPEST) {
