@@ -4,6 +4,7 @@ import java.nio.charset.StandardCharsets;
 final class Checks {
     private static int failed = 0;
     private static int looked = 0;
+    private static String sentence = "";
 
     private Checks() {
     }
@@ -13,19 +14,31 @@ final class Checks {
         long answer();
     }
 
+    /** What the next answers are looked at for: told with each that is not as due. */
+    static void lookFor(String quote) {
+        sentence = quote.isEmpty() ? "" : "[" + quote + "] ";
+    }
+
+    static int looked() {
+        return looked;
+    }
+
+    private static void fail(String what) {
+        failed++;
+        System.out.println(sentence + what);
+    }
+
     static void same(String what, long due, long got) {
         looked++;
         if (due != got) {
-            failed++;
-            System.out.println(what + " answered " + got + ", due is " + due);
+            fail(what + " answered " + got + ", due is " + due);
         }
     }
 
     static void same(String what, String due, String got) {
         looked++;
         if (!due.equals(got)) {
-            failed++;
-            System.out.println(what + " answered " + got + ", due is " + due);
+            fail(what + " answered " + got + ", due is " + due);
         }
     }
 
@@ -44,8 +57,7 @@ final class Checks {
             }
             got = "threw " + e;
         }
-        failed++;
-        System.out.println(what + " " + got + ", due is " + due.getSimpleName());
+        fail(what + " " + got + ", due is " + due.getSimpleName());
     }
 
     static void feed(QuillEngine x, byte[] text) {
