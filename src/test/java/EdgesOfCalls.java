@@ -181,6 +181,40 @@ final class EdgesOfCalls {
             Checks.same("run", 0, x.run(0, 1));
             Checks.same("the program from now on", 6, x.told(0));
         }
+        readAgain(new QuillEngine());
+        readShorter();
+    }
+
+    /** One full program behind the other: none leaves anything of it to the next. */
+    private static void readAgain(QuillEngine x) {
+        for (int i = 0; i < 6; i++) {
+            Checks.feed(x, Edges.main("let a = 1; " + "a=a+1;".repeat(100 + i) + "a=a*2-a;".repeat(190) + " return a;"));
+            Checks.same("read of a full one", 0, x.read());
+            Checks.same("run", 0, x.run(0, 1));
+            Checks.same("the program from now on", 101 + i, x.told(0));
+            Checks.feed(x, Edges.main("print \"" + "b".repeat(i) + "\"; return " + i + ";"));
+            Checks.same("read of a short one", 0, x.read());
+            Checks.same("run", 0, x.run(0, 1));
+            Checks.same("told", "b".repeat(i), Checks.toldText(x));
+            Checks.same("the program from now on", i, x.told(0));
+        }
+    }
+
+    /** The bytes of the text ahead are gone, also the one that stood where this one ends. */
+    private static void readShorter() {
+        String[] shorter = {"do 1 @=", "do 1 <@", "do 1 @!", "do @\"ab", "do @\"", "let a = 1@", "let a@", "do 1 / 1@", "do @"};
+        String[] signs = {"=", "=", "=", "\"", "\"", "2;", "b", ";", "1"};
+        for (int i = 0; i < shorter.length; i++) {
+            String head = "fn main(): int { " + shorter[i];
+            int at = head.indexOf('@');
+            String text = head.replace("@", "");
+            QuillEngine x = new QuillEngine();
+            Checks.feed(x, "#".repeat(text.length()) + signs[i].repeat(50));
+            Checks.same("read", 1, x.read());
+            Checks.feed(x, text);
+            Checks.same("read of " + text, 1, x.read());
+            Checks.same("place of " + text, at, x.place());
+        }
     }
 
     private static void whatWasRun() {

@@ -49,7 +49,8 @@ final class EdgesOfLimits {
         Checks.same("the six", 123, x.told(0));
         Checks.same("the six", "xyz", Checks.toldText(x));
         Edges.fault(1, "fn g(" + six + ", @h: int): int { } " + Edges.main(""), "fn g(" + six + ", @a: int): int { }",
-            "fn g(" + six + ", @h", "fn g(" + six + ",@", "fn g(" + six + ", @h, i, j, k)");
+            "fn g(" + six + ", @h", "fn g(" + six + ",@", "fn g(" + six + ", @h, i, j, k)",
+            "fn g(" + six + ", @): int { } " + Edges.main(""), "fn g(" + six + "@;");
     }
 
     private static String lets(int from, int to) {

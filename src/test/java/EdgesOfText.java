@@ -90,6 +90,24 @@ final class EdgesOfText {
                 Edges.faultS(2, "let " + left + " = 1; do @" + right + ";");
             }
         }
+        for (char first = 'a'; first <= 'z'; first++) {
+            for (char second : all.toCharArray()) {
+                String name = "" + first + second;
+                for (String local : new String[] {"ar", "f0", "z9"}) {
+                    if (!name.equals(local) && !name.equals("do") && !name.equals("fn") && !name.equals("if") && !name.equals("or")) {
+                        Edges.faultS(2, "let " + local + " = 1; do @" + name + ";");
+                    }
+                }
+            }
+        }
+        for (int i = 0; i < 12; i++) {
+            for (char c : all.substring(0, i == 0 ? 26 : 36).toCharArray()) {
+                String name = "m".repeat(i) + c + "m".repeat(11 - i);
+                if (c != 'm') {
+                    Edges.rightS("let " + "m".repeat(12) + " = 1; let " + name + " = \"\";");
+                }
+            }
+        }
         Edges.rightS("let a = 1; let aa = 2; let b = 3; let ab = 4; let ba = 5; let a1 = 6; let a10 = 7; let a01 = 8;");
         Edges.rightS("let abcdefghijkl = 1; let abcdefghijkm = 2; let bbcdefghijkl = 3; let abcdefghijk = 4;");
     }
