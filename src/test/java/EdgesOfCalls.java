@@ -162,7 +162,8 @@ final class EdgesOfCalls {
         Checks.same("empty then", 2, x.feed(0x2020, 2));
         Checks.same("the program from now on", 0, x.run(0, 1));
         Checks.same("the program from now on", 5, x.told(0));
-        String[] texts = {"#", "", "fn main(): int { return a; }", "fn f(): int { }", "fn main(): int { return \"\"; }", "  "};
+        String[] texts = {"#", "", "fn main(): int { return a; }", "fn f(): int { }",
+            "fn main(): int { return \"\"; }", "  "};
         int[] kinds = {1, 1, 2, 2, 3, 1};
         x.read();
         for (int i = 0; i < texts.length; i++) {
@@ -188,7 +189,8 @@ final class EdgesOfCalls {
     /** One full program behind the other: none leaves anything of it to the next. */
     private static void readAgain(QuillEngine x) {
         for (int i = 0; i < 6; i++) {
-            Checks.feed(x, Edges.main("let a = 1; " + "a=a+1;".repeat(100 + i) + "a=a*2-a;".repeat(190) + " return a;"));
+            Checks.feed(x, Edges.main("let a = 1; " + "a=a+1;".repeat(100 + i) + "a=a*2-a;".repeat(190)
+                + " return a;"));
             Checks.same("read of a full one", 0, x.read());
             Checks.same("run", 0, x.run(0, 1));
             Checks.same("the program from now on", 101 + i, x.told(0));
@@ -202,7 +204,8 @@ final class EdgesOfCalls {
 
     /** The bytes of the text ahead are gone, also the one that stood where this one ends. */
     private static void readShorter() {
-        String[] shorter = {"do 1 @=", "do 1 <@", "do 1 @!", "do @\"ab", "do @\"", "let a = 1@", "let a@", "do 1 / 1@", "do @"};
+        String[] shorter = {"do 1 @=", "do 1 <@", "do 1 @!", "do @\"ab", "do @\"", "let a = 1@", "let a@",
+            "do 1 / 1@", "do @"};
         String[] signs = {"=", "=", "=", "\"", "\"", "2;", "b", ";", "1"};
         for (int i = 0; i < shorter.length; i++) {
             String head = "fn main(): int { " + shorter[i];
@@ -276,7 +279,8 @@ final class EdgesOfCalls {
     private static void runWrongly() {
         Sentences.of("IllegalStateException: there is none, or it has a fault.");
         nothingToRun(new QuillEngine());
-        for (String text : new String[] {"", "#", "fn f(): int { }", "fn main(): int { do a; }", "fn main(): int { return \"\"; }"}) {
+        for (String text : new String[] {"", "#", "fn f(): int { }", "fn main(): int { do a; }",
+            "fn main(): int { return \"\"; }"}) {
             nothingToRun(Checks.reading(text));
         }
         QuillEngine fed = new QuillEngine();
@@ -315,8 +319,10 @@ final class EdgesOfCalls {
         Sentences.of("Of the latest run:");
         QuillEngine x = Checks.right(Edges.main("let t = \"ab\" & \"c\"; print t; let u = sign(1); print u; return 7;"));
         int[] heaps = {10, 0, 4, 5, 6, 3, 4000, 5};
-        int[][] due = {{7, 4, 6, 2, 6, 0, 1, 10}, {0, 0, 2, 0, 0, 0, 0, 0}, {0, 3, 4, 1, 4, 4, 0, 0}, {0, 3, 4, 1, 4, 4, 1, 1},
-            {7, 4, 6, 2, 6, 0, 1, 6}, {0, 0, 2, 0, 0, 0, 1, 3}, {7, 4, 6, 2, 6, 0, 1, 4000}, {0, 3, 4, 1, 4, 4, 1, 1}};
+        int[][] due = {{7, 4, 6, 2, 6, 0, 1, 10}, {0, 0, 2, 0, 0, 0, 0, 0}, {0, 3, 4, 1, 4, 4, 0, 0}, {0, 3, 4, 1, 4,
+            4, 1, 1},
+            {7, 4, 6, 2, 6, 0, 1, 6}, {0, 0, 2, 0, 0, 0, 1, 3}, {7, 4, 6, 2, 6, 0, 1, 4000}, {0, 3, 4, 1, 4, 4, 1,
+            1}};
         for (int i = 0; i < heaps.length; i++) {
             Checks.same("run(" + heaps[i] + ", 1)", due[i][0] == 7 ? 0 : 2, x.run(heaps[i], 1));
             for (int what = 0; what < 8; what++) {
@@ -328,7 +334,8 @@ final class EdgesOfCalls {
             Checks.same("returned", n, Edges.run(0, 0, 1, Edges.main("return " + n + ";")).told(0));
         }
         Checks.same("returned", 0, Edges.run(0, 0, 1, Edges.main("do 7;")).told(0));
-        QuillEngine y = Checks.right("fn f(n: int): int { return n; } " + Edges.main("let a = 5; return f(7) + len(sign(a));"));
+        QuillEngine y = Checks.right("fn f(n: int): int { return n; } "
+            + Edges.main("let a = 5; return f(7) + len(sign(a));"));
         Checks.same("run", 0, y.run(2, 2));
         Checks.same("returned", 8, y.told(0));
         Checks.same("run", 2, y.run(1, 2));
@@ -350,26 +357,36 @@ final class EdgesOfCalls {
         Sentences.of("3 blocks made,");
         Checks.same("made", 0, Edges.run(0, 0, 1, Edges.main("print 1;")).told(3));
         Checks.same("made", 1, Edges.run(0, 2, 1, Edges.main("do sign(1);")).told(3));
-        Checks.same("made", 600, Edges.run(0, 2, 1, Edges.main("let k = 0; while k < 600 { do sign(1); k = k + 1; }")).told(3));
-        Checks.same("the one without room is not made", 1, Edges.run(2, 2, 1, Edges.main("let t = sign(1); let u = sign(1);")).told(3));
+        Checks.same("made", 600, Edges.run(0, 2, 1,
+            Edges.main("let k = 0; while k < 600 { do sign(1); k = k + 1; }")).told(3));
+        Checks.same("the one without room is not made", 1, Edges.run(2, 2, 1,
+            Edges.main("let t = sign(1); let u = sign(1);")).told(3));
         Sentences.of("4 the most places that were taken at once,");
         Checks.same("most", 0, Edges.run(0, 10, 1, Edges.main("print 1;")).told(4));
         Checks.same("most", 2, Edges.run(0, 10, 1, Edges.main("do sign(1); do sign(2);")).told(4));
-        Checks.same("most", 4, Edges.run(0, 10, 1, Edges.main("let t = sign(1); t = sign(2); t = \"\"; t = sign(3);")).told(4));
-        Checks.same("most", 10, Edges.run(0, 10, 1, Edges.main("let t = digits(12345678 + 100000000); t = \"\"; do sign(1);")).told(4));
-        Checks.same("the one without room is not taken", 4, Edges.run(2, 10, 1, Edges.main("let t = digits(123); do digits(123456);")).told(4));
+        Checks.same("most", 4, Edges.run(0, 10, 1,
+            Edges.main("let t = sign(1); t = sign(2); t = \"\"; t = sign(3);")).told(4));
+        Checks.same("most", 10, Edges.run(0, 10, 1,
+            Edges.main("let t = digits(12345678 + 100000000); t = \"\"; do sign(1);")).told(4));
+        Checks.same("the one without room is not taken", 4, Edges.run(2, 10, 1,
+            Edges.main("let t = digits(123); do digits(123456);")).told(4));
         Sentences.of("5 places taken at the end (of ENDS 1 to 5 as all stood then),");
         Checks.same("taken", 0, Edges.run(0, 10, 1, Edges.main("let t = sign(1);")).told(5));
         Checks.same("taken", 2, Edges.run(1, 10, 1, Edges.main("let t = sign(1); do 1 / 0;")).told(5));
         Checks.same("taken", 4, Edges.run(1, 10, 1, Edges.main("let t = sign(1); do sign(1)[1 / 0];")).told(5));
         Checks.same("taken", 4, Edges.run(2, 5, 1, Edges.main("let t = sign(1); do sign(1) & sign(2);")).told(5));
         Checks.same("taken", 6, Edges.run(2, 8, 1, Edges.main("let t = sign(1); do sign(1) & sign(2);")).told(5));
-        Checks.same("taken", 4, Edges.run(3, 8, 1, "fn f(t: text): int { } " + Edges.main("let t = sign(1); do f(sign(1));")).told(5));
+        Checks.same("taken", 4, Edges.run(3, 8, 1, "fn f(t: text): int { } "
+            + Edges.main("let t = sign(1); do f(sign(1));")).told(5));
         Checks.same("taken", 2, Edges.run(4, 8, 1, Edges.main("let t = sign(1); while 1 { }")).told(5));
-        Checks.same("taken", 4, Edges.run(4, 8, 1, Edges.main("let t = sign(1); " + Edges.pass(19996) + "do find(\"ab\", sign(1));")).told(5));
-        Checks.same("taken", 4, Edges.run(4, 8, 2, "fn f(t: text): int { } " + Edges.main("let t = sign(1); " + Edges.pass(19997) + "do f(sign(1));")).told(5));
-        Checks.same("taken", 4, Edges.run(5, 8, 1, Edges.main("let t = sign(1); while 1 { print sign(2); print \"" + "x".repeat(99) + "\"; }")).told(5));
-        Checks.same("taken", 2, Edges.run(5, 8, 1, Edges.main("let t = sign(1); while 1 { print \"" + "x".repeat(100) + "\"; }")).told(5));
+        Checks.same("taken", 4, Edges.run(4, 8, 1, Edges.main("let t = sign(1); " + Edges.pass(19996)
+            + "do find(\"ab\", sign(1));")).told(5));
+        Checks.same("taken", 4, Edges.run(4, 8, 2, "fn f(t: text): int { } " + Edges.main("let t = sign(1); "
+            + Edges.pass(19997) + "do f(sign(1));")).told(5));
+        Checks.same("taken", 4, Edges.run(5, 8, 1, Edges.main("let t = sign(1); while 1 { print sign(2); print \""
+            + "x".repeat(99) + "\"; }")).told(5));
+        Checks.same("taken", 2, Edges.run(5, 8, 1, Edges.main("let t = sign(1); while 1 { print \"" + "x".repeat(100)
+            + "\"; }")).told(5));
     }
 
     private static void pieces(int pieces, int longest, String map, String s) {
@@ -423,7 +440,8 @@ final class EdgesOfCalls {
 
     private static void letters() {
         Sentences.of("Byte i that was told; -1 without it.");
-        QuillEngine x = Edges.run(0, 100, 1, Edges.main("print \"ab\"; print -1; print sign(0); print sign(255); print sign(128);"));
+        QuillEngine x = Edges.run(0, 100, 1,
+            Edges.main("print \"ab\"; print -1; print sign(0); print sign(255); print sign(128);"));
         int[] due = {'a', 'b', '-', '1', 0, 255, 128, -1, -1};
         for (int i = 0; i < due.length; i++) {
             Checks.same("letter(" + i + ")", due[i], x.letter(i));
@@ -449,7 +467,8 @@ final class EdgesOfCalls {
 
     private static void whose() {
         Sentences.of("Whose place k of the heap was at the end: -1 nobody's, else how many blocks were made ahead of its own.");
-        QuillEngine x = Edges.run(1, 12, 1, Edges.main("let a = sign(1); do sign(9); let b = \"a\" & \"b\"; let c = sign(2); a = \"\"; a = sign(3); do 1 / 0;"));
+        QuillEngine x = Edges.run(1, 12, 1,
+            Edges.main("let a = sign(1); do sign(9); let b = \"a\" & \"b\"; let c = sign(2); a = \"\"; a = sign(3); do 1 / 0;"));
         int[] due = {4, 4, 2, 2, 2, 3, 3, -1, -1, -1, -1, -1};
         for (int k = 0; k < due.length; k++) {
             Checks.same("whose(" + k + ")", due[k], x.whose(k));
@@ -458,7 +477,8 @@ final class EdgesOfCalls {
         for (int k = 0; k < 4000; k += 43) {
             Checks.same("nobody's behind main", -1, y.whose(k));
         }
-        y = Edges.run(1, 4, 1, Edges.main("let k = 0; while k < 999 { do sign(1); k = k + 1; } let t = sign(2); do 1 / 0;"));
+        y = Edges.run(1, 4, 1,
+            Edges.main("let k = 0; while k < 999 { do sign(1); k = k + 1; } let t = sign(2); do 1 / 0;"));
         Checks.same("whose(0)", 999, y.whose(0));
         Checks.same("whose(1)", 999, y.whose(1));
         Checks.same("whose(2)", -1, y.whose(2));

@@ -1,4 +1,5 @@
-/** Promises 5 and 6, Terms 2: each sentence on STEPS and how a run ENDS, the last that is within and the first beyond. */
+/** Promises 5 and 6, Terms 2: each sentence on STEPS and how a run ENDS,
+    the last that is within and the first beyond. */
 final class EdgesOfEnds {
     private static final String HELP = "fn f(): int { } fn g(n: int): int { return n; } ";
 
@@ -46,7 +47,8 @@ final class EdgesOfEnds {
         Edges.steps(2 + 2 * 10, "let k = 10; while k { k = k - 1; }");
         Edges.steps(2 + 2 * 10, "let k = -10; while k { k = k + 1; }");
         Edges.steps(3, "while 1 { return 1; }");
-        Edges.steps(2 + 3 * (1 + 2 + 2 * 2 + 1), "let k = 3; while k { let l = 2; while l { l = l - 1; } k = k - 1; }");
+        Edges.steps(2 + 3 * (1 + 2 + 2 * 2 + 1),
+            "let k = 3; while k { let l = 2; while l { l = l - 1; } k = k - 1; }");
         Checks.same("steps", 3, Edges.run(1, 0, 1, Edges.main("do 1; while 1 / 0 { }")).told(2));
     }
 
@@ -82,9 +84,12 @@ final class EdgesOfEnds {
         Edges.steps(1 + 2 + 1, "do find(\"ab\", digits(find(\"c\", \"d\")));");
         Edges.run(0, 0, 1, Edges.main(Edges.pass(19995) + "do find(\"abc\", \"a\");"));
         Edges.run(4, 0, 1, Edges.main(Edges.pass(19996) + "do find(\"abc\", \"a\");"));
-        Checks.same("returned", 2, Edges.run(0, 0, 1, Edges.main(Edges.pass(19994) + "return find(\"abcd\", \"c\");")).told(0));
-        Checks.same("steps", 20000, Edges.run(4, 0, 1, Edges.main(Edges.pass(19900) + "do find(\"" + "a".repeat(100) + "\", \"a\");")).told(2));
-        Checks.same("an empty one takes none", 20000, Edges.run(0, 0, 1, Edges.main(Edges.pass(19998) + "do find(\"\", \"a\");")).told(2));
+        Checks.same("returned", 2, Edges.run(0, 0, 1, Edges.main(Edges.pass(19994)
+            + "return find(\"abcd\", \"c\");")).told(0));
+        Checks.same("steps", 20000, Edges.run(4, 0, 1, Edges.main(Edges.pass(19900) + "do find(\"" + "a".repeat(100)
+            + "\", \"a\");")).told(2));
+        Checks.same("an empty one takes none", 20000, Edges.run(0, 0, 1, Edges.main(Edges.pass(19998)
+            + "do find(\"\", \"a\");")).told(2));
         // ahead of it: behind its parts
         Edges.run(1, 0, 1, Edges.main(Edges.pass(19998) + "do find(\"abc\", \"x\"[1 / 0 : 1]);"));
         Edges.run(2, 0, 1, Edges.main(Edges.pass(19998) + "do find(\"abc\", sign(1));"));
@@ -136,7 +141,8 @@ final class EdgesOfEnds {
         String f = "fn f(n: int): int { if n <= 1 { return 7; } return f(n - 1); } ";
         for (int deep = 1; deep <= 12; deep++) {
             if (deep > 1) {
-                Checks.same("returned", 7, Edges.run(0, 0, deep, f + Edges.main("return f(" + (deep - 1) + ");")).told(0));
+                Checks.same("returned", 7, Edges.run(0, 0, deep, f + Edges.main("return f(" + (deep - 1)
+                    + ");")).told(0));
             }
             QuillEngine x = Edges.run(3, 0, deep, f + Edges.main("return f(" + deep + ");"));
             Checks.same("steps", 2 + 3 * (deep - 1), x.told(2));
@@ -159,7 +165,8 @@ final class EdgesOfEnds {
         Checks.same("steps", 20000, Edges.run(4, 0, 1, Edges.main("while 1 { }")).told(2));
         Checks.same("steps", 20000, Edges.run(4, 0, 1, Edges.main("while 1 { do 1; }")).told(2));
         Checks.same("steps", 20000, Edges.run(4, 0, 2, HELP + Edges.main("while 1 { do f(); }")).told(2));
-        Checks.same("steps", 20000, Edges.run(4, 0, 1, Edges.main("while 1 { do find(\"abcdefg\", \"x\"); }")).told(2));
+        Checks.same("steps", 20000, Edges.run(4, 0, 1,
+            Edges.main("while 1 { do find(\"abcdefg\", \"x\"); }")).told(2));
         Checks.same("steps", 20000, Edges.run(0, 0, 1, Edges.main(Edges.pass(19999))).told(2));
     }
 
@@ -176,7 +183,8 @@ final class EdgesOfEnds {
             Checks.same("told", "x".repeat(2000), Checks.toldText(x));
         }
         int[] ahead = {1999, 1999, 1999, 1999, 1990, 1990, 1989, 1901, 1901, 1900, 1900};
-        String[] more = {"\"a\"", "7", "\"ab\"", "-7", "2147483647", "-2147483647", "-2147483647", hundred, hundred + "[1 : 100]", hundred, "\"\""};
+        String[] more = {"\"a\"", "7", "\"ab\"", "-7", "2147483647", "-2147483647", "-2147483647", hundred, hundred
+            + "[1 : 100]", hundred, "\"\""};
         int[] bytes = {1, 1, 2, 2, 10, 11, 11, 100, 99, 100, 0};
         for (int i = 0; i < ahead.length; i++) {
             String s = full.replace("k < 20", "k < 19") + "print " + hundred + "[0 : " + (ahead[i] - 1900) + "]; ";
@@ -225,13 +233,17 @@ final class EdgesOfEnds {
         String[] acts = {"1 / 0", "len(sign(1))", "f(n)", "find(\"" + "z".repeat(100) + "\", \"\")"};
         int[] heaps = {10, 1, 10, 10};
         for (int i = 0; i < acts.length; i++) {
-            String f = "fn f(n: int): int { " + (i == 2 ? "if n { return 1; } n = 1; " : i == 3 ? Edges.pass(19990) : "")
-                + "print \"b\"; let t = \"\" & " + (i == 0 ? "sign(7)" : "\"\"") + "; do " + acts[i] + "; print \"c\"; t = \"\"; return 1 + n; } ";
-            QuillEngine x = Edges.run(i + 1, heaps[i], 2, f + Edges.main("print \"a\"; let k = f(0); print \"d\"; return k;"));
+            String f = "fn f(n: int): int { "
+                + (i == 2 ? "if n { return 1; } n = 1; " : i == 3 ? Edges.pass(19990) : "")
+                + "print \"b\"; let t = \"\" & " + (i == 0 ? "sign(7)" : "\"\"") + "; do " + acts[i]
+                + "; print \"c\"; t = \"\"; return 1 + n; } ";
+            QuillEngine x = Edges.run(i + 1, heaps[i], 2, f
+                + Edges.main("print \"a\"; let k = f(0); print \"d\"; return k;"));
             Checks.same("told till " + acts[i], "ab", Checks.toldText(x));
             Checks.same("places taken", i == 0 ? 2 : 0, x.told(5));
         }
-        QuillEngine x = Edges.run(5, 10, 2, "fn f(): int { let t = sign(7); while 1 { print " + told + "; } t = \"\"; return 1; } "
+        QuillEngine x = Edges.run(5, 10, 2, "fn f(): int { let t = sign(7); while 1 { print " + told
+            + "; } t = \"\"; return 1; } "
             + Edges.main("print \"a\"; let k = f(); print \"d\"; return k;"));
         Checks.same("told", "a" + "y".repeat(1900), Checks.toldText(x));
         Checks.same("places taken", 2, x.told(5));

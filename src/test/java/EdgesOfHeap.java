@@ -37,7 +37,8 @@ final class EdgesOfHeap {
             }
         }
         // the whole of the greatest, byte by byte, and the program's QUOTES beside it stay what they are
-        String text = Edges.main("let q = \"" + "q".repeat(100) + "\"; let a = \"" + "abcdefghij".repeat(10) + "\"; a = a & a; a = a & a; a = a & a;"
+        String text = Edges.main("let q = \"" + "q".repeat(100) + "\"; let a = \"" + "abcdefghij".repeat(10)
+            + "\"; a = a & a; a = a & a; a = a & a;"
             + " let b = a[3 : 800] & \"!\"; let c = b & b; a = \"\"; let k = 0; let s = 0; while k < len(c) { if c[k] == 33 { s = s + k; }"
             + " k = k + 1; } print c[0 : 1000]; print c[1000 : 1596]; print q; return s;");
         QuillEngine x = Edges.run(0, 4000, 1, text + " ".repeat(3000 - text.length()));
@@ -49,7 +50,8 @@ final class EdgesOfHeap {
     private static void sizes() {
         Sentences.of("A BLOCK of n bytes is n + 1 places side by side.");
         for (int n : new int[] {1, 2, 3, 4, 10, 11}) {
-            String e = n == 1 ? "sign(1)" : n == 11 ? "digits(-2147483647 - 1)" : "\"a\" & \"" + "b".repeat(n - 1) + "\"";
+            String e = n == 1 ? "sign(1)" : n == 11 ? "digits(-2147483647 - 1)" : "\"a\" & \"" + "b".repeat(n - 1)
+                + "\"";
             Edges.places("0".repeat(n + 1), "let t = " + e + ";");
             Edges.places("0".repeat(n + 1) + ".", "let t = " + e + ";");
             QuillEngine x = Edges.run(2, n, 1, Edges.main("let t = " + e + ";"));
@@ -80,7 +82,8 @@ final class EdgesOfHeap {
         Edges.makes(1, 2, "do sign(0);");
         Edges.makes(3, 3, "do digits(1); do sign(1); do \"a\" & \"b\";");
         Edges.makes(2, 5, "let t = sign(1); t = t & t;");
-        Edges.makes(0, 0, "let a = \"a\"; let b = a[0 : 1]; do a == b; do find(a, b); do len(a); print a; print 12; do a[0]; a = b;");
+        Edges.makes(0, 0,
+            "let a = \"a\"; let b = a[0 : 1]; do a == b; do find(a, b); do len(a); print a; print 12; do a[0]; a = b;");
         Edges.makes(2, 4, "let a = sign(1); let b = sign(1);");
         Edges.run(2, 0, 1, Edges.main("do sign(1);"));
         Edges.run(2, 1, 1, Edges.main("do sign(1);"));
@@ -103,7 +106,8 @@ final class EdgesOfHeap {
         Edges.places("444442222233.....", three + "a = \"\"; b = \"\"; let e = \"ab\" & \"cd\";");
         Edges.places("000444444.33.....", three + "b = \"\"; c = \"\"; let e = digits(12345);");
         Edges.places("00011222224444444", three + "d = \"\"; let e = digits(123456);");
-        Edges.places("444444444444.....", three + "a = \"\"; b = \"\"; c = \"\"; d = \"\"; let e = digits(-1000000000);");
+        Edges.places("444444444444.....", three
+            + "a = \"\"; b = \"\"; c = \"\"; d = \"\"; let e = digits(-1000000000);");
         // free places that are enough in all, but not side by side
         QuillEngine x = Edges.run(2, 12, 1, Edges.main(three + "a = \"\"; c = \"\"; let e = digits(12345);"));
         Checks.same("places", "...11.....33", Edges.map(x, 12));
@@ -168,10 +172,15 @@ final class EdgesOfHeap {
         Edges.places("00..", "if 1 { let t = sign(1); do 1 / 0; }");
         Edges.places("11..", "if 1 { let t = sign(1); } let u = sign(2);");
         Edges.places("....", HELP, "do zero(sign(1));");
-        Edges.places("......", "fn f(t: text): int { let u = sign(2); if 1 { let v = sign(3); return 1; } } ", "do f(sign(1));");
-        Edges.places("......", "fn f(t: text): int { let u = sign(2); while 1 { let v = sign(3); if 1 { return 1; } } } ", "do f(sign(1));");
-        Edges.places("..11..", "fn f(t: text): text { let u = sign(2); while 1 { let v = sign(3); return u; } } ", "let t = f(sign(1));");
-        Edges.places("001122", "fn f(t: text): int { let u = sign(2); while 1 { let v = sign(3); return 1 / 0; } } ", "do f(sign(1));");
+        Edges.places("......", "fn f(t: text): int { let u = sign(2); if 1 { let v = sign(3); return 1; } } ",
+            "do f(sign(1));");
+        Edges.places("......",
+            "fn f(t: text): int { let u = sign(2); while 1 { let v = sign(3); if 1 { return 1; } } } ",
+            "do f(sign(1));");
+        Edges.places("..11..", "fn f(t: text): text { let u = sign(2); while 1 { let v = sign(3); return u; } } ",
+            "let t = f(sign(1));");
+        Edges.places("001122", "fn f(t: text): int { let u = sign(2); while 1 { let v = sign(3); return 1 / 0; } } ",
+            "do f(sign(1));");
     }
 
     private static void rounds() {
@@ -183,7 +192,8 @@ final class EdgesOfHeap {
         Edges.places("11..", "let k = 0; while k < 2 { let t = sign(k); if k { do 1 / 0; } k = k + 1; }");
         // ahead of the next round's E
         Edges.run(0, 2, 1, Edges.main("let k = 0; while len(sign(1)) * 3 - k { let t = sign(k); k = k + 1; }"));
-        Edges.run(0, 2, 2, "fn f(k: int): int { return len(sign(k)) and k < 5; } " + Edges.main("let k = 0; while f(k) { let t = sign(k); k = k + 1; }"));
+        Edges.run(0, 2, 2, "fn f(k: int): int { return len(sign(k)) and k < 5; } "
+            + Edges.main("let k = 0; while f(k) { let t = sign(k); k = k + 1; }"));
     }
 
     private static void partsOfE() {

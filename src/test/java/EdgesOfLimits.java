@@ -44,7 +44,8 @@ final class EdgesOfLimits {
     private static void parameters() {
         Sentences.of("6 PARAMETERS,");
         String six = "a: int, b: text, c: int, d: text, e: int, f: text";
-        QuillEngine x = Edges.run(0, 0, 2, "fn g(" + six + "): int { print b; print d; print f; return a * 100 + c * 10 + e; } "
+        QuillEngine x = Edges.run(0, 0, 2, "fn g(" + six
+            + "): int { print b; print d; print f; return a * 100 + c * 10 + e; } "
             + Edges.main("return g(1, \"x\", 2, \"y\", 3, \"z\");"));
         Checks.same("the six", 123, x.told(0));
         Checks.same("the six", "xyz", Checks.toldText(x));
@@ -63,17 +64,22 @@ final class EdgesOfLimits {
 
     private static void locals() {
         Sentences.of("30 locals of a function in scope at once (PARAMETERS, too),");
-        Edges.tells("0 29 435", lets(0, 30) + "print v0; print \" \"; print v29; print \" \"; print v0+v1+v2+v3+v4+v5+v6+v7"
+        Edges.tells("0 29 435", lets(0, 30)
+            + "print v0; print \" \"; print v29; print \" \"; print v0+v1+v2+v3+v4+v5+v6+v7"
             + "+v8+v9+v10+v11+v12+v13+v14+v15+v16+v17+v18+v19+v20+v21+v22+v23+v24+v25+v26+v27+v28+v29;");
-        Edges.faultS(1, lets(0, 30) + "let @w = 1;", lets(0, 30) + "if 1 { let @w = 1; }", lets(0, 30) + "let @v0 = 1;",
+        Edges.faultS(1, lets(0, 30) + "let @w = 1;", lets(0, 30) + "if 1 { let @w = 1; }", lets(0, 30)
+            + "let @v0 = 1;",
             lets(0, 30) + "while 0 { if 0 { } else { let @w = w; } }");
         // in scope at once: those of BLOCKS that ended are not
         Edges.rightS(lets(0, 29) + "if 1 { let a = 1; } else { let b = 1; } while 0 { let c = 1; } let d = 1;",
-            "if 1 { " + lets(0, 30) + "} " + lets(30, 60), lets(0, 15) + "if 1 { " + lets(15, 30) + "} " + lets(30, 45));
-        Edges.faultS(1, lets(0, 29) + "if 1 { let a = 1; let @b = 1; }", lets(0, 15) + "if 1 { " + lets(15, 30) + "let @w = 1; }");
+            "if 1 { " + lets(0, 30) + "} " + lets(30, 60), lets(0, 15) + "if 1 { " + lets(15, 30) + "} " + lets(30,
+            45));
+        Edges.faultS(1, lets(0, 29) + "if 1 { let a = 1; let @b = 1; }", lets(0, 15) + "if 1 { " + lets(15, 30)
+            + "let @w = 1; }");
         // of a function, and PARAMETERS, too
         String six = "fn f(a: int, b: int, c: int, d: int, e: int, f: int): int { ";
-        Edges.right(six + lets(0, 24) + "return a + v23; } " + Edges.main(lets(0, 30) + "return f(1, 2, 3, 4, 5, 6);"),
+        Edges.right(six + lets(0, 24) + "return a + v23; } " + Edges.main(lets(0, 30)
+            + "return f(1, 2, 3, 4, 5, 6);"),
             "fn f(a: int): int { " + lets(0, 29) + "} " + Edges.main(lets(0, 30)));
         Edges.fault(1, six + lets(0, 24) + "let @w = 1; } " + Edges.main(""),
             "fn f(a: int): int { " + lets(0, 29) + "let @w = 1; } " + Edges.main(""));
@@ -82,15 +88,18 @@ final class EdgesOfLimits {
     private static void statements() {
         Sentences.of("300 S of the whole text,");
         Checks.same("steps of 300", 301, Edges.run(0, 0, 1, Edges.main("do 1;".repeat(300))).told(2));
-        Edges.faultS(1, "do 1;".repeat(300) + "@do 1;", "do 1;".repeat(300) + "@let a = 1;", "do 1;".repeat(300) + "@a = 1;",
-            "do 1;".repeat(300) + "@if 1 { }", "do 1;".repeat(300) + "@while 0 { }", "do 1;".repeat(300) + "@return 1;",
+        Edges.faultS(1, "do 1;".repeat(300) + "@do 1;", "do 1;".repeat(300) + "@let a = 1;", "do 1;".repeat(300)
+            + "@a = 1;",
+            "do 1;".repeat(300) + "@if 1 { }", "do 1;".repeat(300) + "@while 0 { }", "do 1;".repeat(300)
+            + "@return 1;",
             "do 1;".repeat(300) + "@print 1;", "if 1{}".repeat(299) + "do 1; @do 1;");
         // of the whole text: in all FUNCTIONS and within one another's BLOCKS
         Edges.right("fn f(): int { " + "do 1;".repeat(299) + " } " + Edges.main("do 1;"));
         Edges.fault(1, "fn f(): int { " + "do 1;".repeat(299) + " } " + Edges.main("do 1; @do 1;"),
             "fn f(): int { " + "do 1;".repeat(300) + " } " + Edges.main("@do 1;"));
         Edges.rightS("if 1 { do 1; } ".repeat(150), "if 0{do 1;}else{do 1;}".repeat(100));
-        Edges.faultS(1, "if 1 { do 1; } ".repeat(150) + "@do 1;", "if 1 { do 1; } ".repeat(149) + "do 1; if 1 { @do 1; }",
+        Edges.faultS(1, "if 1 { do 1; } ".repeat(150) + "@do 1;", "if 1 { do 1; } ".repeat(149)
+            + "do 1; if 1 { @do 1; }",
             "if 0{do 1;}else{do 1;}".repeat(99) + "do 1; if 0 { do 1; } else { @do 1; }");
     }
 
@@ -102,11 +111,13 @@ final class EdgesOfLimits {
         Sentences.of("S 8 deep within one another's BLOCKS,");
         for (String open : new String[] {"if 1 { ", "if 0 { } else { "}) {
             Edges.rightS(nest(open, 7, "do 1;", " }"), nest(open, 8, "", " }"));
-            Edges.faultS(1, nest(open, 8, "@do 1;", " }"), nest(open, 8, "@x = 1;", " }"), nest(open, 8, "@let x = 1;", " }"),
+            Edges.faultS(1, nest(open, 8, "@do 1;", " }"), nest(open, 8, "@x = 1;", " }"), nest(open, 8,
+                "@let x = 1;", " }"),
                 nest(open, 8, "@return 1;", " }"), nest(open, 8, "@print 1;", " }"), nest(open, 8, "@if 1 { }", " }"),
                 nest(open, 8, "@while 0 { }", " }"), nest(open, 7, "do 1; if 1 { } do 2; if 1 { @do 3; }", " }"));
         }
-        Edges.rightS(nest("while 0 { ", 7, "do 1;", " }"), nest("if 1 { ", 7, "do 1;", " }") + nest("if 1 { ", 7, "do 1;", " }"),
+        Edges.rightS(nest("while 0 { ", 7, "do 1;", " }"), nest("if 1 { ", 7, "do 1;", " }") + nest("if 1 { ", 7,
+            "do 1;", " }"),
             nest("if 1 { ", 7, "do 1; do 2; if 1 { } else { }", " }"));
         Edges.faultS(1, nest("while 0 { ", 8, "@do 1;", " }"), nest("if 1 { while 1 { ", 4, "@do 1;", " } }"));
         Edges.fault(1, Edges.main("if 1 { ".repeat(8) + "@if 1 { if 1 { do 1; } }" + " }".repeat(8)));
@@ -131,18 +142,23 @@ final class EdgesOfLimits {
         // within one another: not those side by side, and those of a function's head or another S
         Edges.right(f + Edges.main("do " + nest("(", 8, "1", ")") + " + " + nest("f(", 8, "1", ")") + " + "
             + nest("\"a\"[", 8, "0", "]") + ";"));
-        Edges.rightS("do \"abc\"" + "[0 : 3]".repeat(20) + ";", "if " + nest("(", 8, "1", ")") + " { do " + nest("(", 8, "1", ")") + "; }");
+        Edges.rightS("do \"abc\"" + "[0 : 3]".repeat(20) + ";", "if " + nest("(", 8, "1", ")") + " { do " + nest("(",
+            8, "1", ")") + "; }");
         Edges.faultS(1, "do " + nest("(", 8, "1", ")") + " + " + "(".repeat(8) + "@(1" + ")".repeat(9) + ";",
-            "if " + "(".repeat(8) + "@(1" + ")".repeat(9) + " { }", "while " + "(".repeat(8) + "@(1" + ")".repeat(9) + " { }",
-            "return " + "(".repeat(8) + "@(1" + ")".repeat(9) + ";", "let a = " + "(".repeat(8) + "@(1" + ")".repeat(9) + ";");
+            "if " + "(".repeat(8) + "@(1" + ")".repeat(9) + " { }", "while " + "(".repeat(8) + "@(1" + ")".repeat(9)
+            + " { }",
+            "return " + "(".repeat(8) + "@(1" + ")".repeat(9) + ";", "let a = " + "(".repeat(8) + "@(1"
+            + ")".repeat(9) + ";");
     }
 
     private static void signsOfOneS() {
         Sentences.of("40 SIGNS in the whole E of an S");
         // the whole E, also within brackets; each S has one of its own
-        Edges.rightS("do (1" + " + 1".repeat(19) + ") + (1" + " + 1".repeat(20) + ");", "do \"ab\"[0" + " + 1".repeat(39) + "];",
+        Edges.rightS("do (1" + " + 1".repeat(19) + ") + (1" + " + 1".repeat(20) + ");", "do \"ab\"[0"
+            + " + 1".repeat(39) + "];",
             "do 1" + " + 1".repeat(40) + "; do 1" + " + 1".repeat(40) + ";",
-            "if 1" + " + 1".repeat(40) + " { do 1" + " + 1".repeat(40) + "; } while 0 and 1" + " + 1".repeat(39) + " { }");
+            "if 1" + " + 1".repeat(40) + " { do 1" + " + 1".repeat(40) + "; } while 0 and 1" + " + 1".repeat(39)
+            + " { }");
         Edges.faultS(1, "do (1" + " + 1".repeat(20) + ") + (1" + " + 1".repeat(19) + " @+ 1);",
             "do \"ab\"[0" + " + 1".repeat(39) + " @+ 1];", "do len(digits(1" + " + 1".repeat(38) + " @+ 1));",
             "if 1" + " + 1".repeat(40) + " @+ 1 { }", "while 1" + " + 1".repeat(40) + " @+ 1 { }",
@@ -162,11 +178,13 @@ final class EdgesOfLimits {
         for (String sign : new String[] {"==", "!=", "<", "<="}) {
             String twenty = "1 " + sign + " 1" + (" and 1 " + sign + " 1").repeat(19);
             Edges.rightS("do " + twenty + " and 1;");
-            Edges.faultS(1, "do " + twenty + " and 1 @" + sign + " 1;", "do 1" + " + 1".repeat(40) + " @" + sign + " 1;",
+            Edges.faultS(1, "do " + twenty + " and 1 @" + sign + " 1;", "do 1" + " + 1".repeat(40) + " @" + sign
+                + " 1;",
                 "do " + twenty + " and 1 @and 1;");
         }
         // commas stand between two, and so does :, but they are no sign of E's levels
-        Edges.right("fn f(a: int, b: int, c: int): int { } " + Edges.main("do f(1, 2, 3)" + " + f(1, 2, 3)".repeat(19) + " + 1;"));
+        Edges.right("fn f(a: int, b: int, c: int): int { } " + Edges.main("do f(1, 2, 3)" + " + f(1, 2, 3)".repeat(19)
+            + " + 1;"));
         Edges.rightS("do \"a\"" + "[0 : 1]".repeat(40) + ";");
     }
 
@@ -174,15 +192,18 @@ final class EdgesOfLimits {
         Sentences.of("each - or ! in front,");
         Edges.prints("1", "-".repeat(40) + "1");
         Edges.prints("1", "!".repeat(40) + "1");
-        Edges.faultS(1, "do " + "-".repeat(40) + "@-1;", "do " + "!".repeat(40) + "@!1;", "do " + "-!".repeat(20) + "@-1;",
-            "do 1" + " + 1".repeat(39) + " + @-1;", "do 1" + " + 1".repeat(39) + " + @!1;", "do " + "-".repeat(40) + "1 @+ 1;");
+        Edges.faultS(1, "do " + "-".repeat(40) + "@-1;", "do " + "!".repeat(40) + "@!1;", "do " + "-!".repeat(20)
+            + "@-1;",
+            "do 1" + " + 1".repeat(39) + " + @-1;", "do 1" + " + 1".repeat(39) + " + @!1;", "do " + "-".repeat(40)
+            + "1 @+ 1;");
         Sentences.of("each [,");
         Edges.rightS("do \"a\"" + "[0 : 1]".repeat(39) + "[0];");
         Edges.faultS(1, "do \"a\"" + "[0 : 1]".repeat(40) + "@[0];", "do \"a\"" + "[0 : 1]".repeat(40) + "@[0 : 1];",
             "do 1" + " + 1".repeat(39) + " + \"a\"@[0];", "do \"a\"" + "[0 : 1]".repeat(40) + " @& \"a\";");
         Sentences.of("each word ahead of the ( of a call, len, find, digits, sign is one).");
         String f = "fn f(): int { } fn g(a: int, b: int): int { } ";
-        Edges.right(f + Edges.main("do f()" + " + f()".repeat(19) + " + 1;"), f + Edges.main("do 1" + " + 1".repeat(38) + " + g(1, 2);"));
+        Edges.right(f + Edges.main("do f()" + " + f()".repeat(19) + " + 1;"), f + Edges.main("do 1"
+            + " + 1".repeat(38) + " + g(1, 2);"));
         Edges.fault(1, f + Edges.main("do f()" + " + f()".repeat(19) + " + @f();"),
             f + Edges.main("do 1" + " + 1".repeat(39) + " + @g(1, 2);"));
         for (String call : new String[] {"len(\"\")", "find(\"\", \"\")", "digits(1)[0]", "sign(1)[0]"}) {

@@ -25,7 +25,8 @@ final class EdgesOfRuns {
     }
 
     private static void says(String due, String e) {
-        Checks.same("told by " + e, due, Checks.toldText(Edges.run(0, 4000, 12, HELP + Edges.main("print " + e + ";"))));
+        Checks.same("told by " + e, due, Checks.toldText(Edges.run(0, 4000, 12, HELP + Edges.main("print " + e
+            + ";"))));
     }
 
     private static void ints() {
@@ -43,7 +44,8 @@ final class EdgesOfRuns {
         prints("-2147483648", "65536 * 32768");
         prints("2147483647", "2147483647 + 1 - 1");
         Sentences.of("/ is cut towards 0,");
-        prints("3 -3 -3 3", "digits(7 / 2) & \" \" & digits(-7 / 2) & \" \" & digits(7 / -2) & \" \" & digits(-7 / -2)");
+        prints("3 -3 -3 3",
+            "digits(7 / 2) & \" \" & digits(-7 / 2) & \" \" & digits(7 / -2) & \" \" & digits(-7 / -2)");
         prints("0 0 0", "digits(1 / 2) & \" \" & digits(-1 / 2) & \" \" & digits(0 / 5)");
         prints("7 -7", "digits(7 / 1) & \" \" & digits(7 / -1)");
         prints("-2147483648", MIN + " / -1");
@@ -53,7 +55,8 @@ final class EdgesOfRuns {
         prints("0", "2147483647 / " + MIN);
         prints("-1", MIN + " / 2147483647");
         Sentences.of("% has the left one's sign.");
-        prints("1 -1 1 -1", "digits(7 % 2) & \" \" & digits(-7 % 2) & \" \" & digits(7 % -2) & \" \" & digits(-7 % -2)");
+        prints("1 -1 1 -1",
+            "digits(7 % 2) & \" \" & digits(-7 % 2) & \" \" & digits(7 % -2) & \" \" & digits(-7 % -2)");
         prints("0 0 0", "digits(6 % 3) & \" \" & digits(-6 % 3) & \" \" & digits(0 % 3)");
         prints("0 0", "digits(7 % 1) & \" \" & digits(-7 % -1)");
         prints("0", MIN + " % -1");
@@ -66,7 +69,8 @@ final class EdgesOfRuns {
         Sentences.of("Parts from the left.");
         for (String sign : new String[] {"+", "-", "*", "/", "%", "==", "!=", "<", "<="}) {
             says("ab" + (sign.equals("+") ? 9 : sign.equals("-") ? 3 : sign.equals("*") ? 18 : sign.equals("/") ? 2
-                : sign.equals("%") || sign.equals("==") || sign.charAt(0) == '<' ? 0 : 1), "say(\"a\", 6) " + sign + " say(\"b\", 3)");
+                : sign.equals("%") || sign.equals("==") || sign.charAt(0) == '<' ? 0 : 1), "say(\"a\", 6) " + sign
+                    + " say(\"b\", 3)");
         }
         says("abab", "give(\"a\") & give(\"b\")");
         says("ab98", "give(\"ab\")[say(\"\", 1)]");
@@ -89,8 +93,10 @@ final class EdgesOfRuns {
         Edges.run(1, 0, 1, Edges.main("do 1 and 1 / 0;"));
         Edges.run(1, 0, 1, Edges.main("do -1 and 1 / 0;"));
         Edges.run(1, 0, 1, Edges.main("do 0 or 1 / 0;"));
-        prints("1 0 0 0", "digits(2 and 3) & \" \" & digits(2 and 0) & \" \" & digits(0 and 2) & \" \" & digits(0 and 0)");
-        prints("1 1 1 0", "digits(2 or 3) & \" \" & digits(2 or 0) & \" \" & digits(0 or 2) & \" \" & digits(0 or 0)");
+        prints("1 0 0 0",
+            "digits(2 and 3) & \" \" & digits(2 and 0) & \" \" & digits(0 and 2) & \" \" & digits(0 and 0)");
+        prints("1 1 1 0",
+            "digits(2 or 3) & \" \" & digits(2 or 0) & \" \" & digits(0 or 2) & \" \" & digits(0 or 0)");
         prints("1 1", "digits(" + MIN + " and -1) & \" \" & digits(0 or " + MIN + ")");
         says("a1", "say(\"a\", 7) or say(\"b\", 0)");
         says("ab0", "say(\"a\", 7) and say(\"b\", 0)");
@@ -98,7 +104,9 @@ final class EdgesOfRuns {
         says("abc1", "say(\"a\", 0) or say(\"b\", 0) or say(\"c\", 2)");
         says("ac1", "say(\"a\", 0) and say(\"b\", 1) or say(\"c\", 2)");
         Sentences.of("! of 0 is 1, of others 0.");
-        prints("1 0 0 0 0", "digits(!0) & \" \" & digits(!1) & \" \" & digits(!2) & \" \" & digits(!-1) & \" \" & digits(!" + MIN + ")");
+        prints("1 0 0 0 0",
+            "digits(!0) & \" \" & digits(!1) & \" \" & digits(!2) & \" \" & digits(!-1) & \" \" & digits(!" + MIN
+            + ")");
         prints("0 1", "digits(!!0) & \" \" & digits(!!256)");
         prints("0", "!2147483647");
     }
@@ -141,7 +149,8 @@ final class EdgesOfRuns {
 
     private static void alike(String left, String right, int order) {
         String told = "" + (order == 0 ? 1 : 0) + (order != 0 ? 1 : 0) + (order < 0 ? 1 : 0) + (order <= 0 ? 1 : 0);
-        Edges.tells(told, "let l = " + left + "; let r = " + right + "; print l == r; print l != r; print l < r; print l <= r;");
+        Edges.tells(told, "let l = " + left + "; let r = " + right
+            + "; print l == r; print l != r; print l < r; print l <= r;");
     }
 
     private static void bytesOfTexts() {
@@ -150,7 +159,8 @@ final class EdgesOfRuns {
         for (int b = 0; b < 256; b++) {
             all.append((char) b);
         }
-        Edges.tells(all.toString(), "let t = \"\"; let b = 0; while b < 256 { t = t & sign(b); b = b + 1; } print t;");
+        Edges.tells(all.toString(),
+            "let t = \"\"; let b = 0; while b < 256 { t = t & sign(b); b = b + 1; } print t;");
         Sentences.of("&: one behind the other.");
         prints("abcd", "\"ab\" & \"cd\"");
         prints("ab", "\"\" & \"ab\"");
@@ -160,7 +170,8 @@ final class EdgesOfRuns {
         prints("abab", "(\"a\" & \"b\") & (\"a\" & \"b\")");
         Edges.tells("xyxyxyxy", "let t = \"xy\"; t = t & t; t = t & t; print t;");
         Sentences.of("t[i]: byte i as an int (0 .. 255), -1 if there is none.");
-        Edges.tells("97 98 99 -1 -1 -1 -1 -1", "let t = \"abc\"; print t[0]; print \" \"; print t[1]; print \" \"; print t[2]; print \" \";"
+        Edges.tells("97 98 99 -1 -1 -1 -1 -1",
+            "let t = \"abc\"; print t[0]; print \" \"; print t[1]; print \" \"; print t[2]; print \" \";"
             + " print t[3]; print \" \"; print t[-1]; print \" \"; print t[4]; print \" \"; print t[2147483647]; print \" \"; print t[" + MIN + "];");
         prints("-1", "\"\"[0]");
         prints("-1", "\"\"[-1]");
@@ -213,7 +224,8 @@ final class EdgesOfRuns {
         prints("100", "len(\"" + "a".repeat(100) + "\")");
         prints("3", "len(\"abcdef\"[1 : 4])");
         prints("0", "len(\"abcdef\"[4 : 1])");
-        Edges.tells("1600", "let t = \"" + "a".repeat(100) + "\"; let u = t & t & t & t & t & t & t & t; let v = u & u; print len(v);");
+        Edges.tells("1600", "let t = \"" + "a".repeat(100)
+            + "\"; let u = t & t & t & t & t & t & t & t; let v = u & u; print len(v);");
         Sentences.of("find(t, u): the least place at which u stands in t (0 for an empty one),");
         prints("0", "find(\"abcabd\", \"ab\")");
         prints("3", "find(\"abcabd\", \"abd\")");
@@ -273,30 +285,38 @@ final class EdgesOfRuns {
 
     private static void noReturn() {
         Sentences.of("A function without return at its end returns 0, or the empty text.");
-        QuillEngine x = Edges.run(0, 0, 2, "fn f(n: int): int { if n { return 7; } } fn g(n: int): text { if n { return \"x\"; } let t = \"y\"; } "
+        QuillEngine x = Edges.run(0, 0, 2,
+            "fn f(n: int): int { if n { return 7; } } fn g(n: int): text { if n { return \"x\"; } let t = \"y\"; } "
             + Edges.main("print f(0); print f(1); print len(g(0)); print g(1); print g(0) == \"\"; let a = 5;"));
         Checks.same("told", "070x1", Checks.toldText(x));
         Checks.same("main returned", 0, x.told(0));
         Checks.same("main returned", 0, Edges.run(0, 0, 1, Edges.main("")).told(0));
         Checks.same("main returned", -3, Edges.run(0, 0, 1, Edges.main("return -3;")).told(0));
-        Checks.same("main returned", Integer.MIN_VALUE, Edges.run(0, 0, 1, Edges.main("return " + MIN + ";")).told(0));
+        Checks.same("main returned", Integer.MIN_VALUE, Edges.run(0, 0, 1, Edges.main("return " + MIN
+            + ";")).told(0));
     }
 
     /** An E takes its own parts alone: those that were worked out ahead of it still stand, thousands of times. */
     private static void alone() {
-        String[] ints = {"!0", "1", "-(-1)", "1", "\"abc\"[1]", "98", "\"abc\"[9]", "-1", "len(\"ab\")", "2", "find(\"ab\", \"b\")", "1",
-            "(2 and 3)", "1", "(2 and 0)", "0", "(0 and 3)", "0", "(0 or 0)", "0", "(5 or 0)", "1", "(0 or 5)", "1", "(1 == 1)", "1",
+        String[] ints = {"!0", "1", "-(-1)", "1", "\"abc\"[1]", "98", "\"abc\"[9]", "-1", "len(\"ab\")", "2",
+            "find(\"ab\", \"b\")", "1",
+            "(2 and 3)", "1", "(2 and 0)", "0", "(0 and 3)", "0", "(0 or 0)", "0", "(5 or 0)", "1", "(0 or 5)", "1",
+            "(1 == 1)", "1",
             "(\"a\" < \"b\")", "1", "(7 / 2)", "3", "(7 % 2)", "1", "main2()", "9", "id(4)", "4"};
         for (int i = 0; i < ints.length; i += 2) {
             int n = Integer.parseInt(ints[i + 1]);
-            String text = "fn main2(): int { return 9; } fn id(n: int): int { return n; } " + Edges.main("let k = 0; let s = 0; while k < 3000 { s = 1000 - 10 * (3 + "
+            String text = "fn main2(): int { return 9; } fn id(n: int): int { return n; } "
+                + Edges.main("let k = 0; let s = 0; while k < 3000 { s = 1000 - 10 * (3 + "
                 + ints[i] + "); k = k + 1; } return s;");
-            Checks.same("1000 - 10 * (3 + " + ints[i] + ")", 1000 - 10 * (3 + n), Edges.run(0, 100, 12, text).told(0));
+            Checks.same("1000 - 10 * (3 + " + ints[i] + ")", 1000 - 10 * (3 + n), Edges.run(0, 100, 12,
+                text).told(0));
         }
-        String[] texts = {"\"abc\"[2 : 1]", "", "\"abc\"[1 : 2]", "b", "(\"\" & \"\")", "", "(\"\" & \"x\")", "x", "(\"x\" & \"\")", "x", "(\"x\" & \"y\")", "xy",
+        String[] texts = {"\"abc\"[2 : 1]", "", "\"abc\"[1 : 2]", "b", "(\"\" & \"\")", "", "(\"\" & \"x\")", "x",
+            "(\"x\" & \"\")", "x", "(\"x\" & \"y\")", "xy",
             "digits(7)", "7", "sign(65)", "A", "none()", "", "id(\"q\")", "q"};
         for (int i = 0; i < texts.length; i += 2) {
-            String text = "fn none(): text { } fn id(t: text): text { return t; } " + Edges.main("let k = 0; let s = \"\"; while k < 3000 { s = \"<\" & (\"(\" & "
+            String text = "fn none(): text { } fn id(t: text): text { return t; } "
+                + Edges.main("let k = 0; let s = \"\"; while k < 3000 { s = \"<\" & (\"(\" & "
                 + texts[i] + ") & \">\"; k = k + 1; } print s;");
             Checks.same("of " + texts[i], "<(" + texts[i + 1] + ">", Checks.toldText(Edges.run(0, 100, 12, text)));
         }

@@ -36,13 +36,15 @@ final class EdgesOfText {
         Edges.prints("12", "12");
         Edges.prints("-1", "1-2");
         Sentences.of("with blanks (10, 32) between, or nothing:");
-        Edges.right("fn main():int{print(1);}", "fn\nmain\n(\n)\n:\nint\n{\nprint\n1\n;\n}", "  \n fn main ( ) : int { }\n  ",
+        Edges.right("fn main():int{print(1);}", "fn\nmain\n(\n)\n:\nint\n{\nprint\n1\n;\n}",
+            "  \n fn main ( ) : int { }\n  ",
             "fn main(): int {" + " \n".repeat(1400) + "}");
         for (int blank : new int[] {0, 9, 11, 12, 13, 31, 127, 133, 160, 255}) {
             Edges.faultS(1, "do 1;@" + (char) blank, "do@" + (char) blank + "1;", "@" + (char) blank);
             Edges.fault(1, "@" + (char) blank + "fn main(): int { }", "fn main(): int { }@" + (char) blank);
         }
-        Edges.faultS(1, "do 1 @2;", "let a @b = 1;", "do 1 < @= 1;", "do 1 @= = 1;", "do 1 @! = 1;", "do \"a\" @\"b\";");
+        Edges.faultS(1, "do 1 @2;", "let a @b = 1;", "do 1 < @= 1;", "do 1 @= = 1;", "do 1 @! = 1;",
+            "do \"a\" @\"b\";");
     }
 
     private static void names() {
@@ -63,7 +65,8 @@ final class EdgesOfText {
             }
         }
         Edges.faultS(1, "let @printprintpri = 1;", "@returnreturn1;", "@whilewhilewhile 1 { }");
-        Edges.faultS(1, "let a@B = 1;", "let @A = 1;", "let a@_b = 1;", "let @_a = 1;", "let a@" + (char) 228 + " = 1;",
+        Edges.faultS(1, "let a@B = 1;", "let @A = 1;", "let a@_b = 1;", "let @_a = 1;", "let a@" + (char) 228
+            + " = 1;",
             "let @1a = 1;", "let @1 = 1;");
         namesApart();
         Sentences.of("but the KEYWORDS and digits do else find fn if int len let or print return sign text while;");
@@ -172,14 +175,16 @@ final class EdgesOfText {
     private static void functions() {
         Sentences.of("PROGRAM: one or more FUNCTIONS:");
         Edges.fault(1, "@", " @", "\n\n\n@", "@1", "@do 1;", "@main", "@}");
-        Edges.right("fn main(): int { }", "fn f(): int { } fn main(): int { }", "fn main(): int { } fn f(): text { }");
+        Edges.right("fn main(): int { }", "fn f(): int { } fn main(): int { }",
+            "fn main(): int { } fn f(): text { }");
         Edges.fault(1, "fn main(): int { } @1", "fn main(): int { } @}", "fn main(): int { } @do 1;",
             "fn main(): int { } fn@", "fn main(): int { @fn f(): int { } }");
         Sentences.of("fn NAME ( [ PARAMETER { , PARAMETER } ] ) : TYPE BLOCK.");
         Edges.right("fn f(a: int): int { } fn g(a: int, b: text): text { } fn main(): int { }");
         Edges.fault(1, "fn @(", "fn main @)", "fn main@", "fn main(@", "fn main(a: int@", "fn main(a: int @a: int)",
             "fn main(a: int, @)", "fn main(@, a: int)", "fn main(a: int @; b: int)", "fn main(a: int,@, b)",
-            "fn main() @int { }", "fn main()@", "fn main(): @{ }", "fn main():@", "fn main(): int @", "fn main(): int @;",
+            "fn main() @int { }", "fn main()@", "fn main(): @{ }", "fn main():@", "fn main(): int @",
+            "fn main(): int @;",
             "fn main(): int @return 1;", "fn main(): int @int { }");
         Sentences.of("PARAMETER: NAME : TYPE.");
         Edges.fault(1, "fn f(@: int)", "fn f(a @int)", "fn f(a: @)", "fn f(a: @a)", "fn f(a@)", "fn f(@1: int)",
@@ -191,23 +196,27 @@ final class EdgesOfText {
         }
         Sentences.of("BLOCK: { any number of S }.");
         Edges.rightS("", "do 1;", "do 1; do 2; do 3;", "if 1 { }", "if 1 { do 1; do 2; } else { }", "while 0 { }");
-        Edges.fault(1, "fn main(): int {@", "fn main(): int { do 1;@", "fn main(): int { if 1 {@", "fn main(): int { if 1 { }@");
+        Edges.fault(1, "fn main(): int {@", "fn main(): int { do 1;@", "fn main(): int { if 1 {@",
+            "fn main(): int { if 1 { }@");
         Edges.faultS(1, "@;", "do 1;@;", "@{ }", "@1;", "@\"\";", "@else { }", "@int a = 1;", "@len(\"\");", "@(1);");
     }
 
     private static void statements() {
         Sentences.of("S: let NAME = E ; | NAME = E ; |");
         Edges.rightS("let a = 1;", "let a = 1; a = 2;", "let a = \"\"; a = a;");
-        Edges.faultS(1, "let @= 1;", "let a @1;", "let a @== 1;", "let a = @;", "let a@;", "let a = 1 @let b = 1;", "let a = 1@}",
+        Edges.faultS(1, "let @= 1;", "let a @1;", "let a @== 1;", "let a = @;", "let a@;", "let a = 1 @let b = 1;",
+            "let a = 1@}",
             "let a @: int = 1;", "a @1;", "a = @;", "a@;", "a = 1 @a = 1;", "a@[0] = 1;", "a@(1);", "a = @= 1;");
         Sentences.of("if E BLOCK [else BLOCK] | while E BLOCK |");
         Edges.rightS("if 1 { }", "if 1 { } else { }", "while 0 { }", "if(1){}else{}", "while(0){}");
         Edges.faultS(1, "if @{ }", "if 1 @;", "if 1 @do 1;", "if 1 { } else @do 1;", "if 1 { } else @if 1 { }",
-            "if 1 { } else { } @else { }", "while @{ }", "while 0 @;", "while 0 @do 1;", "while 0 { } @else { }", "if 1 { }@;");
+            "if 1 { } else { } @else { }", "while @{ }", "while 0 @;", "while 0 @do 1;", "while 0 { } @else { }",
+            "if 1 { }@;");
         Sentences.of("return E ; | print E ; | do E ;");
         Edges.rightS("return 1;", "print 1;", "do 1;", "print \"\";", "do \"\";", "return(1);");
         for (String word : new String[] {"return", "print", "do"}) {
-            Edges.faultS(1, word + "@;", word + " 1 @2;", word + " 1@, 1;", word + " 1@}", word + " @let a = 1;", word + " 1@);");
+            Edges.faultS(1, word + "@;", word + " 1 @2;", word + " 1@, 1;", word + " 1@}", word + " @let a = 1;", word
+                + " 1@);");
             Edges.fault(1, "fn main(): int { " + word + " 1@", "fn main(): int { " + word + "@");
         }
     }

@@ -8,6 +8,7 @@ import java.nio.file.Path;
  */
 final class Sentences {
     private static String document = "";
+    private static boolean known = false;
     private static boolean[] quoted = new boolean[0];
     private static String current = "";
     private static int before = 0;
@@ -17,12 +18,19 @@ final class Sentences {
 
     /** What binds of ../shared/DOC.md, in one line, without the headings and the heads of the methods. */
     static void begin() throws IOException {
-        String all = Files.readString(Path.of("../shared/DOC.md"));
+        Path path = Path.of("../shared/DOC.md");
+        known = Files.isReadable(path);
+        if (!known) {
+            System.out.println("without ../shared/DOC.md the quotes are not compared with it");
+            return;
+        }
+        String all = Files.readString(path);
         int used = all.indexOf("An object is used");
         int face = all.indexOf("## The public face");
         int terms = all.indexOf("## Terms");
         int end = all.indexOf("## Not promised");
-        String binding = (all.substring(used, face) + all.substring(terms, end)).replaceAll("(?m)^#.*$", "").replaceAll("(?m)^```.*$", "")
+        String binding = (all.substring(used, face) + all.substring(terms, end)).replaceAll("(?m)^#.*$",
+            "").replaceAll("(?m)^```.*$", "")
             .replaceAll("(?m)^`[^`]*`:", "");
         document = inOneLine(binding);
         quoted = new boolean[document.length()];
@@ -37,6 +45,12 @@ final class Sentences {
         current = quote;
         before = Checks.looked();
         Checks.lookFor(quote);
+        if (known) {
+            mark(quote);
+        }
+    }
+
+    private static void mark(String quote) {
         int at = document.indexOf(inOneLine(quote));
         while (at >= 0 && quoted[at]) {
             at = document.indexOf(inOneLine(quote), at + 1);
