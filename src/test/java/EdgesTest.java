@@ -7,6 +7,7 @@ final class EdgesTest {
 
     public static void main(String[] args) throws IOException {
         Sentences.begin();
+        EdgesOfEngine.all();
         EdgesOfText.all();
         EdgesOfLimits.all();
         EdgesOfFaults.all();

@@ -1,7 +1,10 @@
+import java.io.IOException;
 import java.lang.reflect.Constructor;
 import java.lang.reflect.Field;
 import java.lang.reflect.Method;
 import java.lang.reflect.Modifier;
+import java.nio.file.Files;
+import java.nio.file.Path;
 import java.util.Set;
 import java.util.TreeSet;
 
@@ -34,7 +37,39 @@ final class FaceTest {
         return s.toString();
     }
 
-    public static void main(String[] args) {
+    /** The face as the document writes it: its lines, but without the names of the parameters. */
+    private static void asTheDocumentWritesIt() throws IOException {
+        Path path = Path.of("../shared/DOC.md");
+        if (!Files.isReadable(path)) {
+            System.out.println("without ../shared/DOC.md the face is not compared with it");
+            return;
+        }
+        String all = Files.readString(path);
+        int from = all.indexOf("```java\n") + 8;
+        Set<String> due = new TreeSet<>();
+        for (String line : all.substring(from, all.indexOf("```", from)).split("\n")) {
+            String member = line.trim().replaceAll("(int|long) \\w+([,)])", "$1$2").replaceAll("[;{]$", "").trim();
+            if (!member.equals("}")) {
+                due.add(member);
+            }
+        }
+        Class<?> type = QuillEngine.class;
+        Set<String> got = new TreeSet<>();
+        got.add(Modifier.toString(type.getModifiers()) + " class " + type.getName());
+        for (Constructor<?> made : type.getConstructors()) {
+            got.add(made.toGenericString());
+        }
+        for (Method m : type.getDeclaredMethods()) {
+            if (Modifier.isPublic(m.getModifiers())) {
+                got.add(m.toGenericString().replace("QuillEngine.", "").replace("java.lang.", "")
+                    .replace(",", ", "));
+            }
+        }
+        Checks.same("the face", due.toString(), got.toString());
+    }
+
+    public static void main(String[] args) throws IOException {
+        asTheDocumentWritesIt();
         Class<?> type = QuillEngine.class;
         Checks.same("modifiers", Modifier.PUBLIC | Modifier.FINAL, type.getModifiers());
         Set<String> seen = new TreeSet<>();

@@ -16,7 +16,7 @@ final class Sentences {
     private Sentences() {
     }
 
-    /** What binds of ../shared/DOC.md, in one line, without the headings and the heads of the methods. */
+    /** What binds of ../shared/DOC.md, in one line, without headings and heads of methods (FaceTest has those). */
     static void begin() throws IOException {
         Path path = Path.of("../shared/DOC.md");
         known = Files.isReadable(path);
@@ -25,13 +25,11 @@ final class Sentences {
             return;
         }
         String all = Files.readString(path);
-        int used = all.indexOf("An object is used");
         int face = all.indexOf("## The public face");
         int terms = all.indexOf("## Terms");
         int end = all.indexOf("## Not promised");
-        String binding = (all.substring(used, face) + all.substring(terms, end)).replaceAll("(?m)^#.*$",
-            "").replaceAll("(?m)^```.*$", "")
-            .replaceAll("(?m)^`[^`]*`:", "");
+        String binding = (all.substring(0, face) + all.substring(terms, end))
+            .replaceAll("(?m)^#.*$", "").replaceAll("(?m)^```.*$", "").replaceAll("(?m)^`[^`]*`:", "");
         document = inOneLine(binding);
         quoted = new boolean[document.length()];
     }
